@@ -1,0 +1,301 @@
+import java.util.ArrayList;
+import java.util.Arrays;
+import java.util.List;
+import java.util.TreeSet;
+
+/** All groups, with sets of many kinds: every answer is compared with what Told makes of the document's terms. */
+public final class TermsTest {
+    private static final Report REPORT = new Report();
+    private static final int[][] WIDE = {{1, 36}, {36, 1}, {6, 6}, {4, 9}, {9, 4}, {2, 18}, {18, 2}, {3, 12},
+        {12, 3}, {1, 31}, {5, 7}, {1, 35}, {4, 8}, {8, 4}, {2, 16}, {5, 5}, {3, 9}, {1, 12}, {2, 6}, {2, 8}};
+    private static long seed = 20261119;
+
+    public static void main(String[] args) {
+        for (int m = 1; m <= 36; m++) {
+            for (int n = 1; m * n <= 36; n++) {
+                additionDue(m, n);
+                if (m * n <= 10) {
+                    constantDue(m, n);
+                }
+                for (int round = 0; round < 2; round++) {
+                    houseDue(m, n);
+                }
+                rowDue(m, n);
+            }
+        }
+        for (int[] group : WIDE) {
+            for (int round = 0; round < 6; round++) {
+                houseDue(group[0], group[1]);
+                searchDue(group[0], group[1]);
+                rowDue(group[0], group[1]);
+            }
+        }
+        for (int n = 1; n <= 36; n++) {
+            transformsDue(n);
+        }
+        for (int m = 1; m <= 10; m++) {
+            for (int n = 1; m * n <= 10; n++) {
+                gamesDue(m, n);
+            }
+        }
+        primesDue();
+        REPORT.end("TermsTest");
+    }
+
+    private static void due(String call, Object want, Report.Call made) {
+        REPORT.due(call, want, made);
+    }
+
+    /** The next of a fixed row of numbers from 0 to below most, so that every run asks the same. */
+    private static int next(int most) {
+        seed = (seed * 6364136223846793005L + 1442695040888963407L);
+        return (int) ((seed >>> 33) % most);
+    }
+
+    private static TreeSet<Integer> someSet(int size, int most) {
+        TreeSet<Integer> made = new TreeSet<>();
+        int many = 1 + next(Math.min(size, most));
+        while (made.size() < many) {
+            made.add(next(size));
+        }
+        return made;
+    }
+
+    private static void additionDue(int m, int n) {
+        Told told = new Told(m, n);
+        Sumsetry house = new Sumsetry();
+        due("group", m * n, () -> house.group(m, n));
+        for (int one = 0; one < m * n; one++) {
+            for (int other = 0; other < m * n; other++) {
+                int x = one;
+                int y = other;
+                String of = " of " + m + " and " + n + "(" + x + ", " + y + ")";
+                due("add" + of, told.plus(x, y), () -> house.add(x, y, true));
+                due("subtract" + of, told.plus(x, told.less(y)), () -> house.add(x, y, false));
+            }
+        }
+    }
+
+    private static void constantDue(int m, int n) {
+        Sumsetry house = new Sumsetry();
+        house.group(m, n);
+        due("constant of " + m + " and " + n, new Told(m, n).constant(), () -> house.constant());
+    }
+
+    private static void houseDue(int m, int n) {
+        Told told = new Told(m, n);
+        Sumsetry house = new Sumsetry();
+        house.group(m, n);
+        List<TreeSet<Integer>> sets = new ArrayList<>();
+        for (int number = 0; number < 4; number++) {
+            sets.add(someSet(m * n, number == 0 ? 36 : 6));
+            house.set(Told.bitsOf(sets.get(number)));
+        }
+        sets.add(told.stabilizer(told.combine(Sumsetry.SUM, sets.get(0), sets.get(1))));
+        house.set(Told.bitsOf(sets.get(4)));
+        sets.add(told.move(sets.get(1), -1, next(m * n)));
+        house.set(Told.bitsOf(sets.get(5)));
+        for (int one = 0; one < sets.size(); one++) {
+            oneSetDue(told, house, sets.get(one), one);
+            for (int other = 0; other < sets.size(); other++) {
+                twoSetsDue(told, house, sets.get(one), sets.get(other), one, other);
+                mapsDue(told, house, sets.get(one), sets.get(other), one, other);
+            }
+        }
+        due("slack", told.slack(sets.get(1), sets.get(0), sets.get(2)), () -> house.slack(1, 0, 2));
+        due("slack", told.slack(sets.get(4), sets.get(3), sets.get(5)), () -> house.slack(4, 3, 5));
+    }
+
+    private static void oneSetDue(Told told, Sumsetry house, TreeSet<Integer> set, int number) {
+        String of = " of " + told.m + " and " + told.n + ": " + set;
+        due("elements" + of, Told.bitsOf(set), () -> house.elements(number));
+        due("stabilizer" + of, Told.bitsOf(told.stabilizer(set)), () -> house.stabilizer(number));
+        due("order" + of, told.order(set), () -> house.order(number));
+        due("essential" + of, Told.bitsOf(told.essential(set)), () -> house.essential(number));
+        for (int many = 1; many < 6; many++) {
+            int asked = many;
+            due("sums" + of + many, Told.bitsOf(told.sums(set, many)), () -> house.sums(number, asked));
+        }
+        due("sums" + of + 100, Told.bitsOf(told.sums(set, 100)), () -> house.sums(number, 100));
+        for (int rule = Sumsetry.FREE; rule <= Sumsetry.APART; rule++) {
+            int asked = rule;
+            due("keeps" + of + rule, told.keeps(set, rule), () -> house.keeps(number, asked));
+        }
+        if (house.of(2) < 24) {
+            int times = next(201) - 100;
+            int element = next(told.size());
+            due("move" + of, house.of(2), () -> house.move(number, times, element));
+            due("move" + of + times + ", " + element, Told.bitsOf(told.move(set, times, element)),
+                    () -> house.elements(house.of(2) - 1));
+        }
+    }
+
+    private static void twoSetsDue(Told told, Sumsetry house, TreeSet<Integer> set, TreeSet<Integer> with, int one,
+            int other) {
+        String of = " of " + told.m + " and " + told.n + ": " + set + with;
+        for (int least = 1; least < 4; least++) {
+            int asked = least;
+            due("popular" + of + least, Told.bitsOf(told.popular(set, with, least)),
+                    () -> house.popular(one, other, asked));
+        }
+        int element = next(told.size());
+        due("ways" + of + element, told.ways(set, with, element), () -> house.ways(one, other, element));
+        due("energy" + of, told.energy(set, with), () -> house.energy(one, other));
+        due("energyAnew" + of, told.energy(set, with), () -> house.energyAnew(one, other));
+        due("excess" + of, told.excess(set, with), () -> house.excess(one, other));
+        due("cover" + of, Told.bitsOf(told.cover(set, with)), () -> house.cover(one, other));
+        int how = next(6);
+        if (house.of(2) < 30) {
+            TreeSet<Integer> made = told.combine(how, set, with);
+            Object want = made.isEmpty() ? IllegalStateException.class : (Object) house.of(2);
+            due("combine" + of + how, want, () -> house.combine(how, one, other));
+            if (!made.isEmpty()) {
+                due("combine" + of + how, Told.bitsOf(made), () -> house.elements(house.of(2) - 1));
+            }
+        }
+    }
+
+    private static void mapsDue(Told told, Sumsetry house, TreeSet<Integer> set, TreeSet<Integer> with, int one,
+            int other) {
+        for (int order = 2; order <= 3; order++) {
+            int by = order;
+            String of = " of " + told.m + " and " + told.n + ": " + set + with + order;
+            if (set.size() > 6 || with.size() > 6) {
+                due("maps" + of, IllegalStateException.class, () -> house.maps(one, other, by));
+                continue;
+            }
+            List<int[]> maps = told.maps(set, with, order);
+            due("maps" + of, maps.size(), () -> house.maps(one, other, by));
+            List<Integer> members = new ArrayList<>(set);
+            for (int element = 0; element < told.size(); element += 1 + next(3)) {
+                int asked = element;
+                int place = members.indexOf(element);
+                int want = place < 0 || maps.isEmpty() ? Sumsetry.NONE : maps.get(0)[place];
+                due("image" + of + element, want, () -> house.image(one, other, by, asked));
+            }
+        }
+    }
+
+    private static void searchDue(int m, int n) {
+        Told told = new Told(m, n);
+        Sumsetry house = new Sumsetry();
+        house.group(m, n);
+        TreeSet<Integer> set = new TreeSet<>();
+        int first = next(m * n);
+        int step = 1 + next(3);
+        while (set.size() < Math.min(12, (m * n + step - 1) / step)) {
+            set.add((first + step * set.size()) % (m * n));
+            if (next(3) == 0) {
+                set.add(next(m * n));
+            }
+            first++;
+        }
+        while (set.size() > 12) {
+            set.pollLast();
+        }
+        house.set(Told.bitsOf(set));
+        for (int rule = Sumsetry.FREE; rule <= Sumsetry.APART; rule++) {
+            int by = rule;
+            long want = Told.bitsOf(told.greatest(set, rule));
+            due("greatest of " + m + " and " + n + ": " + set + rule, want, () -> house.greatest(0, by));
+            due("greatestAnew of " + m + " and " + n + ": " + set + rule, want, () -> house.greatestAnew(0, by));
+        }
+    }
+
+    private static void rowDue(int m, int n) {
+        Told told = new Told(m, n);
+        Sumsetry house = new Sumsetry();
+        house.group(m, n);
+        int[] row = new int[0];
+        int length = m * n > 8 ? 12 : 6;
+        while (row.length < length) {
+            int element = m * n == 1 ? 0 : 1 + next(m * n - 1);
+            row = Arrays.copyOf(row, row.length + 1);
+            row[row.length - 1] = element;
+            due("put", row.length, () -> house.put(element));
+            due("zero of " + m + " and " + n + ": " + Arrays.toString(row), told.zero(row),
+                    () -> house.zero());
+        }
+        due("wipe", length, () -> house.wipe());
+    }
+
+    private static void gamesDue(int m, int n) {
+        Told told = new Told(m, n);
+        Sumsetry house = new Sumsetry();
+        house.group(m, n);
+        for (int rule = Sumsetry.FREE; rule <= Sumsetry.APART; rule++) {
+            for (long put = 0; put < 1L << m * n; put++) {
+                long asked = put;
+                int by = rule;
+                TreeSet<Integer> set = Told.setOf(put);
+                Object want = IllegalArgumentException.class;
+                if (told.keeps(set, rule)) {
+                    want = Told.bitsOf(told.wins(rule, set));
+                }
+                due("wins of " + m + " and " + n + "(" + rule + ", " + set + ")", want, () -> house.wins(by, asked));
+            }
+        }
+    }
+
+    private static void transformsDue(int n) {
+        Told told = new Told(1, n);
+        Sumsetry house = new Sumsetry();
+        house.group(1, n);
+        TreeSet<Integer> one = someSet(n, 36);
+        TreeSet<Integer> other = someSet(n, 36);
+        house.set(Told.bitsOf(one));
+        house.set(Told.bitsOf(other));
+        for (int p = 2; p < 60; p++) {
+            for (int w = 1; w < p; w++) {
+                rootDue(told, house, one, other, p, w);
+            }
+        }
+        for (int p = 9900; p < 10000; p++) {
+            if ((p - 1) % n == 0 && Told.isPrime(p)) {
+                rootDue(told, house, one, other, p, rootOf(told, p));
+            }
+        }
+    }
+
+    private static int rootOf(Told told, int p) {
+        int w = 1 + next(p - 1);
+        while (!told.isRoot(p, w)) {
+            w = w % (p - 1) + 1;
+        }
+        return w;
+    }
+
+    private static void rootDue(Told told, Sumsetry house, TreeSet<Integer> one, TreeSet<Integer> other, int p,
+            int w) {
+        String of = " of " + told.n + " by " + p + " and " + w;
+        boolean isRoot = told.isRoot(p, w);
+        due("root" + of, isRoot ? "nothing" : IllegalArgumentException.class, () -> {
+            house.root(p, w);
+            return "nothing";
+        });
+        if (!isRoot) {
+            return;
+        }
+        due("the prime" + of, p, () -> house.of(4));
+        for (int k = 0; k < told.n; k += 1 + next(5)) {
+            int asked = k;
+            due("transform" + of, told.transform(one, k, p, w), () -> house.transform(0, asked));
+        }
+        int y = next(told.n);
+        due("waysAnew" + of, told.waysAnew(one, other, y, p, w), () -> house.waysAnew(0, 1, y));
+        due("waysAnew as ways" + of, told.ways(one, other, y) % p, () -> house.waysAnew(0, 1, y));
+    }
+
+    /** With n 1 the root of every prime is 1, so that root tells which numbers are primes. */
+    private static void primesDue() {
+        Sumsetry house = new Sumsetry();
+        for (int p = -2; p < 10010; p++) {
+            int asked = p;
+            boolean taken = p <= 9999 && Told.isPrime(p);
+            due("root(" + p + ", 1)", taken ? "nothing" : IllegalArgumentException.class, () -> {
+                house.root(asked, 1);
+                return "nothing";
+            });
+        }
+    }
+}
