@@ -21,7 +21,6 @@ public final class Sumsetry {
     private final long[] sets;
     private int setCount;
     private final Maps maps;
-    private final Search search;
     private final Game game;
     private final Row row;
     private final Transforms transforms;
@@ -32,7 +31,6 @@ public final class Sumsetry {
         sets = new long[MOST_SETS];
         setCount = 0;
         maps = new Maps();
-        search = new Search();
         game = new Game();
         row = new Row();
         transforms = new Transforms();
@@ -261,7 +259,7 @@ public final class Sumsetry {
         needSet(set);
         needRule(rule);
         needSearchable(set);
-        return search.byBranches(group, bitsOf(set), rule);
+        return Search.byBranches(group, bitsOf(set), rule);
     }
 
     /** Returns the greatest subset of a set by a rule, found by going through all subsets. */
@@ -269,7 +267,7 @@ public final class Sumsetry {
         needSet(set);
         needRule(rule);
         needSearchable(set);
-        return search.byAll(group, bitsOf(set), rule);
+        return Search.byAll(group, bitsOf(set), rule);
     }
 
     /** Returns the set of the elements that win the game of a rule when put next; 0 if there are none. */
@@ -687,8 +685,8 @@ public final class Sumsetry {
         }
 
         /**
-         * For a middle y the partners of each x are y + y - x; x is its own partner just if x - y,
-         * twice, is the element 0, and so is y's own.
+         * Round a middle y, the partner of x is y + y - x. What differs from y by an element that is 0
+         * when added to itself, y among them, is its own partner and makes no steps.
          */
         private static boolean hasNoSteps(Group group, long set) {
             long less = group.mirrored(set);
@@ -722,43 +720,32 @@ public final class Sumsetry {
 
     /** Greatest subsets by a rule. */
     private static final class Search {
-        private final int[] members = new int[MOST_SEARCHED];
-        private long best;
-
-        long byBranches(Group group, long set, int rule) {
-            int count = 0;
-            for (int element = 0; element < group.size; element++) {
-                if (has(set, element)) {
-                    lay(members, count, element);
-                    count++;
-                }
-            }
-            best = 0;
-            branch(group, rule, Math.min(count, MOST_SEARCHED), 0);
-            return best;
+        static long byBranches(Group group, long set, int rule) {
+            return branch(group, rule, set, 0, 0);
         }
 
         /**
-         * Settles the highest member left, without it first: so subsets come by rising numbers, and the
-         * first one of the most elements is the lowest.
+         * The greatest of the best so far and of what is chosen with some of what is open. It settles the
+         * highest open element, without it first: so subsets come by rising numbers, and the first one of
+         * the most elements is the lowest. Each level has one open element less, of twelve at most.
          */
-        private void branch(Group group, int rule, int left, long chosen) {
-            if (Long.bitCount(chosen) + left <= Long.bitCount(best)) {
-                return;
+        private static long branch(Group group, int rule, long open, long chosen, long best) {
+            if (Long.bitCount(chosen) + Long.bitCount(open) <= Long.bitCount(best)) {
+                return best;
             }
-            if (left <= 0) {
-                best = chosen;
-                return;
+            if (open == 0 || Long.bitCount(open) > MOST_SEARCHED) {
+                return chosen;
             }
-            long more = chosen | bit(at(members, left - 1));
-            branch(group, rule, left - 1, chosen);
-            if (Rules.hold(group, more, rule)) {
-                branch(group, rule, left - 1, more);
+            long next = Long.highestOneBit(open);
+            long without = branch(group, rule, open & ~next, chosen, best);
+            if (!Rules.hold(group, chosen | next, rule)) {
+                return without;
             }
+            return branch(group, rule, open & ~next, chosen | next, without);
         }
 
         /** Less the set, the bits that are not the set's carry over: what is left are the subsets, rising. */
-        long byAll(Group group, long set, int rule) {
+        static long byAll(Group group, long set, int rule) {
             long most = 0;
             long subset = 0;
             int count = 1 << Math.min(Long.bitCount(set), MOST_SEARCHED);
@@ -829,7 +816,7 @@ public final class Sumsetry {
             found = 0;
             if (lineUp(group, other, to) == many) {
                 compareSums(group);
-                give(group, 0, 0, 0);
+                give(this, group, 0, 0, 0);
             }
         }
 
@@ -872,18 +859,18 @@ public final class Sumsetry {
             }
         }
 
-        /** Gives the member at a place each element in turn that no lower one was given. */
-        private void give(Group group, int place, long taken, long sums) {
-            if (place >= many || place >= MOST_MAPPED) {
+        /** Gives the member at a place each element in turn that none ahead of it was given. */
+        private static void give(Maps maps, Group group, int place, long taken, long sums) {
+            if (place >= maps.many || place >= MOST_MAPPED) {
                 return;
             }
-            for (int pick = 0; pick < many; pick++) {
-                lay(given, place, at(to, pick));
-                long more = has(taken, pick) ? NONE : sumsWith(group, place, sums);
-                if (more != NONE && place + 1 == many) {
-                    noteMap();
+            for (int pick = 0; pick < maps.many; pick++) {
+                lay(maps.given, place, at(maps.to, pick));
+                long more = has(taken, pick) ? NONE : maps.sumsWith(group, place, sums);
+                if (more != NONE && place + 1 == maps.many) {
+                    maps.noteMap();
                 } else if (more != NONE) {
-                    give(group, place + 1, taken | bit(pick), more);
+                    give(maps, group, place + 1, taken | bit(pick), more);
                 }
             }
         }

@@ -173,6 +173,9 @@ public final class PromiseTest {
         due("5 the other difference", bits(1, 0, 7, 4, 3), () -> house.elements(8));
         house.combine(Sumsetry.RESTRICTED, 0, 0);
         due("5 restricted with itself", bits(1, 4, 5), () -> house.elements(9));
+        house.set(bits(2, 9));
+        house.combine(Sumsetry.JOIN, 1, 10);
+        due("5 joined", bits(1, 2, 4, 9), () -> house.elements(11));
         Sumsetry two = house(2, 2, bits(1), bits(0, 1, 2, 3));
         two.combine(Sumsetry.RESTRICTED, 0, 1);
         due("5 restricted of 2 and 2", bits(1, 2, 3), () -> two.elements(2));
@@ -253,6 +256,8 @@ public final class PromiseTest {
         due("9 popular(0, 0, 1)", bits(0, 1, 2, 3, 4), () -> house.popular(0, 0, 1));
         due("9 popular(0, 0, 2)", bits(1, 2, 3), () -> house.popular(0, 0, 2));
         due("9 popular(0, 0, 3)", bits(2), () -> house.popular(0, 0, 3));
+        due("9 popular(0, 1, 1)", (1L << 9) - 1, () -> house.popular(0, 1, 1));
+        due("9 popular(0, 1, 2)", 0L, () -> house.popular(0, 1, 2));
         due("9 popular(0, 0, 4)", 0L, () -> house.popular(0, 0, 4));
         due("9 popular(0, 0, 36)", 0L, () -> house.popular(0, 0, 36));
         due("9 popular(0, 0, 37)", ARGUMENT, () -> house.popular(0, 0, 37));
@@ -451,12 +456,13 @@ public final class PromiseTest {
     }
 
     private static void greatest() {
-        Sumsetry house = house(1, 12, (1L << 9) - 1, (1L << 12) - 1, bits(0), bits(0, 4, 8));
+        Sumsetry house = house(1, 12, (1L << 9) - 1, (1L << 12) - 1, bits(0), bits(0, 4, 8), bits(5));
         long[][] want = {
             {bits(1, 3, 5, 7), bits(0, 1, 3), bits(0, 1, 3, 4), bits(1, 2, 4)},
             {bits(1, 3, 5, 7, 9, 11), bits(0, 1, 3), bits(0, 1, 3, 4), bits(1, 2, 4)},
             {0, bits(0), bits(0), 0},
-            {bits(4), bits(0, 4), bits(0, 4), bits(4)}};
+            {bits(4), bits(0, 4), bits(0, 4), bits(4)},
+            {bits(5), bits(5), bits(5), bits(5)}};
         for (int set = 0; set < want.length; set++) {
             for (int rule = Sumsetry.FREE; rule <= Sumsetry.APART; rule++) {
                 int asked = set;
@@ -588,7 +594,7 @@ public final class PromiseTest {
     private static void root() {
         Sumsetry house = house(1, 6, 1L);
         int[][] wrong = {{1, 1}, {0, 0}, {-7, 3}, {9, 2}, {10000, 3}, {10009, 1}, {7, 0}, {7, 7}, {7, -4}, {7, 2},
-            {7, 6}, {7, 1}, {13, 2}, {LOWEST, 1}, {HIGHEST, 2}, {HIGHEST, HIGHEST}, {9797, 1}};
+            {7, 6}, {7, 1}, {7, 10}, {13, 2}, {LOWEST, 1}, {HIGHEST, 2}, {HIGHEST, HIGHEST}, {9797, 1}};
         for (int[] one : wrong) {
             rootDue("29 root(" + one[0] + ", " + one[1] + ")", ARGUMENT, house, one[0], one[1]);
             due("29 none was told", 0, () -> house.of(4));
@@ -603,6 +609,9 @@ public final class PromiseTest {
         Sumsetry least = new Sumsetry();
         rootDue("29 root(2, 1) of 1 and 1", "nothing", least, 2, 1);
         rootDue("29 root(2, 2) of 1 and 1", ARGUMENT, least, 2, 2);
+        rootDue("29 root(7, 8) of 1 and 1", ARGUMENT, least, 7, 8);
+        rootDue("29 root(7, 7) of 1 and 1", ARGUMENT, least, 7, 7);
+        rootDue("29 root(7, 0) of 1 and 1", ARGUMENT, least, 7, 0);
         rootDue("29 root(9973, 1) of 1 and 1", "nothing", least, 9973, 1);
         rootDue("29 root(9999, 1) of 1 and 1", ARGUMENT, least, 9999, 1);
         due("29 the highest prime", 9973, () -> least.of(4));
