@@ -16,6 +16,8 @@ public final class Sumsetry {
     private static final int MOST_PLAYED = 10;
     private static final int MOST_PLACES = 12;
     private static final int HIGHEST_PRIME = 9999;
+    /** What is no prime up to the highest one has a divisor up to its root. */
+    private static final int HIGHEST_DIVISOR = 99;
 
     private final Group group;
     private final long[] sets;
@@ -957,7 +959,7 @@ public final class Sumsetry {
         private final int[] powers = new int[MOST_ELEMENTS];
 
         static boolean isPrime(int p) {
-            for (int divisor = 2; divisor <= share(p, divisor); divisor++) {
+            for (int divisor = 2; divisor <= HIGHEST_DIVISOR && divisor < p; divisor++) {
                 if (rest(p, divisor) == 0) {
                     return false;
                 }

@@ -1,12 +1,5 @@
 /** Each promise by its number: ordinary inputs, the edges that the document names, and wrong inputs. */
-public final class PromiseTest {
-    private static final Class<?> INDEX = IndexOutOfBoundsException.class;
-    private static final Class<?> ARGUMENT = IllegalArgumentException.class;
-    private static final Class<?> STATE = IllegalStateException.class;
-    private static final Report REPORT = new Report();
-    private static final int LOWEST = Integer.MIN_VALUE;
-    private static final int HIGHEST = Integer.MAX_VALUE;
-
+public final class PromiseTest extends Answers {
     public static void main(String[] args) {
         newObject();
         group();
@@ -45,42 +38,6 @@ public final class PromiseTest {
         fullHouse();
         wrongSetsAndElements();
         REPORT.end("PromiseTest");
-    }
-
-    private static void due(String call, Object want, Report.Call made) {
-        REPORT.due(call, want, made);
-    }
-
-    private static long bits(int... elements) {
-        long made = 0;
-        for (int element : elements) {
-            made |= 1L << element;
-        }
-        return made;
-    }
-
-    /** A house with a group and sets, numbered from 0. */
-    private static Sumsetry house(int m, int n, long... sets) {
-        Sumsetry house = new Sumsetry();
-        house.group(m, n);
-        for (long one : sets) {
-            house.set(one);
-        }
-        return house;
-    }
-
-    private static void rootDue(String call, Object want, Sumsetry house, int p, int w) {
-        due(call, want, () -> {
-            house.root(p, w);
-            return "nothing";
-        });
-    }
-
-    private static void stateDue(String when, Sumsetry house, int... want) {
-        for (int what = 0; what < want.length; what++) {
-            int asked = what;
-            due(when + ": of(" + what + ")", want[what], () -> house.of(asked));
-        }
     }
 
     private static void newObject() {

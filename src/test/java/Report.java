@@ -24,7 +24,8 @@ final class Report {
         }
     }
 
-    private static String told(Call made) {
+    /** The answer as a text, or the name of what was thrown. */
+    static String told(Call made) {
         try {
             return text(made.answer());
         } catch (RuntimeException thrown) {

@@ -3,9 +3,11 @@ import java.util.Arrays;
 import java.util.List;
 import java.util.TreeSet;
 
-/** All groups, with sets of many kinds: every answer is compared with what Told makes of the document's terms. */
-public final class TermsTest {
-    private static final Report REPORT = new Report();
+/**
+ * All groups, with sets of many kinds: every answer is compared with what Told makes of the document's terms. No
+ * house is asked more than 512 times, since what later calls answer is free.
+ */
+public final class TermsTest extends Answers {
     private static final int[][] WIDE = {{1, 36}, {36, 1}, {6, 6}, {4, 9}, {9, 4}, {2, 18}, {18, 2}, {3, 12},
         {12, 3}, {1, 31}, {5, 7}, {1, 35}, {4, 8}, {8, 4}, {2, 16}, {5, 5}, {3, 9}, {1, 12}, {2, 6}, {2, 8}};
     private static long seed = 20261119;
@@ -42,10 +44,6 @@ public final class TermsTest {
         REPORT.end("TermsTest");
     }
 
-    private static void due(String call, Object want, Report.Call made) {
-        REPORT.due(call, want, made);
-    }
-
     /** The next of a fixed row of numbers from 0 to below most, so that every run asks the same. */
     private static int next(int most) {
         seed = (seed * 6364136223846793005L + 1442695040888963407L);
@@ -63,9 +61,9 @@ public final class TermsTest {
 
     private static void additionDue(int m, int n) {
         Told told = new Told(m, n);
-        Sumsetry house = new Sumsetry();
-        due("group", m * n, () -> house.group(m, n));
         for (int one = 0; one < m * n; one++) {
+            Sumsetry house = new Sumsetry();
+            due("group", m * n, () -> house.group(m, n));
             for (int other = 0; other < m * n; other++) {
                 int x = one;
                 int y = other;
@@ -77,33 +75,33 @@ public final class TermsTest {
     }
 
     private static void constantDue(int m, int n) {
-        Sumsetry house = new Sumsetry();
-        house.group(m, n);
+        Sumsetry house = house(m, n);
         due("constant of " + m + " and " + n, new Told(m, n).constant(), () -> house.constant());
     }
 
     private static void houseDue(int m, int n) {
         Told told = new Told(m, n);
-        Sumsetry house = new Sumsetry();
-        house.group(m, n);
         List<TreeSet<Integer>> sets = new ArrayList<>();
         for (int number = 0; number < 4; number++) {
             sets.add(someSet(m * n, number == 0 ? 36 : 6));
-            house.set(Told.bitsOf(sets.get(number)));
         }
         sets.add(told.stabilizer(told.combine(Sumsetry.SUM, sets.get(0), sets.get(1))));
-        house.set(Told.bitsOf(sets.get(4)));
         sets.add(told.move(sets.get(1), -1, next(m * n)));
-        house.set(Told.bitsOf(sets.get(5)));
         for (int one = 0; one < sets.size(); one++) {
-            oneSetDue(told, house, sets.get(one), one);
+            oneSetDue(told, houseOf(m, n, sets), sets.get(one), one);
             for (int other = 0; other < sets.size(); other++) {
+                Sumsetry house = houseOf(m, n, sets);
                 twoSetsDue(told, house, sets.get(one), sets.get(other), one, other);
                 mapsDue(told, house, sets.get(one), sets.get(other), one, other);
             }
         }
+        Sumsetry house = houseOf(m, n, sets);
         due("slack", told.slack(sets.get(1), sets.get(0), sets.get(2)), () -> house.slack(1, 0, 2));
         due("slack", told.slack(sets.get(4), sets.get(3), sets.get(5)), () -> house.slack(4, 3, 5));
+    }
+
+    private static Sumsetry houseOf(int m, int n, List<TreeSet<Integer>> sets) {
+        return house(m, n, sets.stream().mapToLong(Told::bitsOf).toArray());
     }
 
     private static void oneSetDue(Told told, Sumsetry house, TreeSet<Integer> set, int number) {
@@ -121,13 +119,12 @@ public final class TermsTest {
             int asked = rule;
             due("keeps" + of + rule, told.keeps(set, rule), () -> house.keeps(number, asked));
         }
-        if (house.of(2) < 24) {
-            int times = next(201) - 100;
-            int element = next(told.size());
-            due("move" + of, house.of(2), () -> house.move(number, times, element));
-            due("move" + of + times + ", " + element, Told.bitsOf(told.move(set, times, element)),
-                    () -> house.elements(house.of(2) - 1));
-        }
+        int times = next(201) - 100;
+        int element = next(told.size());
+        int made = house.of(2);
+        due("move" + of, made, () -> house.move(number, times, element));
+        due("move" + of + times + ", " + element, Told.bitsOf(told.move(set, times, element)),
+                () -> house.elements(made));
     }
 
     private static void twoSetsDue(Told told, Sumsetry house, TreeSet<Integer> set, TreeSet<Integer> with, int one,
@@ -144,13 +141,14 @@ public final class TermsTest {
         due("energyAnew" + of, told.energy(set, with), () -> house.energyAnew(one, other));
         due("excess" + of, told.excess(set, with), () -> house.excess(one, other));
         due("cover" + of, Told.bitsOf(told.cover(set, with)), () -> house.cover(one, other));
-        int how = next(6);
-        if (house.of(2) < 30) {
+        for (int how = Sumsetry.SUM; how <= Sumsetry.WITHOUT; how++) {
+            int asked = how;
+            int number = house.of(2);
             TreeSet<Integer> made = told.combine(how, set, with);
-            Object want = made.isEmpty() ? IllegalStateException.class : (Object) house.of(2);
-            due("combine" + of + how, want, () -> house.combine(how, one, other));
+            Object want = made.isEmpty() ? STATE : (Object) number;
+            due("combine" + of + how, want, () -> house.combine(asked, one, other));
             if (!made.isEmpty()) {
-                due("combine" + of + how, Told.bitsOf(made), () -> house.elements(house.of(2) - 1));
+                due("combine" + of + how, Told.bitsOf(made), () -> house.elements(number));
             }
         }
     }
@@ -161,7 +159,7 @@ public final class TermsTest {
             int by = order;
             String of = " of " + told.m + " and " + told.n + ": " + set + with + order;
             if (set.size() > 6 || with.size() > 6) {
-                due("maps" + of, IllegalStateException.class, () -> house.maps(one, other, by));
+                due("maps" + of, STATE, () -> house.maps(one, other, by));
                 continue;
             }
             List<int[]> maps = told.maps(set, with, order);
@@ -178,8 +176,6 @@ public final class TermsTest {
 
     private static void searchDue(int m, int n) {
         Told told = new Told(m, n);
-        Sumsetry house = new Sumsetry();
-        house.group(m, n);
         TreeSet<Integer> set = new TreeSet<>();
         int first = next(m * n);
         int step = 1 + next(3);
@@ -193,7 +189,7 @@ public final class TermsTest {
         while (set.size() > 12) {
             set.pollLast();
         }
-        house.set(Told.bitsOf(set));
+        Sumsetry house = house(m, n, Told.bitsOf(set));
         for (int rule = Sumsetry.FREE; rule <= Sumsetry.APART; rule++) {
             int by = rule;
             long want = Told.bitsOf(told.greatest(set, rule));
@@ -204,8 +200,7 @@ public final class TermsTest {
 
     private static void rowDue(int m, int n) {
         Told told = new Told(m, n);
-        Sumsetry house = new Sumsetry();
-        house.group(m, n);
+        Sumsetry house = house(m, n);
         int[] row = new int[0];
         int length = m * n > 8 ? 12 : 6;
         while (row.length < length) {
@@ -221,38 +216,34 @@ public final class TermsTest {
 
     private static void gamesDue(int m, int n) {
         Told told = new Told(m, n);
-        Sumsetry house = new Sumsetry();
-        house.group(m, n);
+        Sumsetry house = house(m, n);
         for (int rule = Sumsetry.FREE; rule <= Sumsetry.APART; rule++) {
             for (long put = 0; put < 1L << m * n; put++) {
+                house = put % 256 == 0 ? house(m, n) : house;
+                Sumsetry playing = house;
                 long asked = put;
                 int by = rule;
                 TreeSet<Integer> set = Told.setOf(put);
-                Object want = IllegalArgumentException.class;
-                if (told.keeps(set, rule)) {
-                    want = Told.bitsOf(told.wins(rule, set));
-                }
-                due("wins of " + m + " and " + n + "(" + rule + ", " + set + ")", want, () -> house.wins(by, asked));
+                Object want = told.keeps(set, rule) ? (Object) Told.bitsOf(told.wins(rule, set)) : ARGUMENT;
+                due("wins of " + m + " and " + n + "(" + rule + ", " + set + ")", want,
+                        () -> playing.wins(by, asked));
             }
         }
     }
 
     private static void transformsDue(int n) {
         Told told = new Told(1, n);
-        Sumsetry house = new Sumsetry();
-        house.group(1, n);
         TreeSet<Integer> one = someSet(n, 36);
         TreeSet<Integer> other = someSet(n, 36);
-        house.set(Told.bitsOf(one));
-        house.set(Told.bitsOf(other));
         for (int p = 2; p < 60; p++) {
+            Sumsetry house = houseOf(1, n, List.of(one, other));
             for (int w = 1; w < p; w++) {
-                rootDue(told, house, one, other, p, w);
+                transformsDue(told, house, one, other, p, w);
             }
         }
         for (int p = 9900; p < 10000; p++) {
             if ((p - 1) % n == 0 && Told.isPrime(p)) {
-                rootDue(told, house, one, other, p, rootOf(told, p));
+                transformsDue(told, houseOf(1, n, List.of(one, other)), one, other, p, rootOf(told, p));
             }
         }
     }
@@ -265,14 +256,11 @@ public final class TermsTest {
         return w;
     }
 
-    private static void rootDue(Told told, Sumsetry house, TreeSet<Integer> one, TreeSet<Integer> other, int p,
-            int w) {
+    private static void transformsDue(Told told, Sumsetry house, TreeSet<Integer> one, TreeSet<Integer> other,
+            int p, int w) {
         String of = " of " + told.n + " by " + p + " and " + w;
         boolean isRoot = told.isRoot(p, w);
-        due("root" + of, isRoot ? "nothing" : IllegalArgumentException.class, () -> {
-            house.root(p, w);
-            return "nothing";
-        });
+        rootDue("root" + of, isRoot ? "nothing" : ARGUMENT, house, p, w);
         if (!isRoot) {
             return;
         }
@@ -288,14 +276,9 @@ public final class TermsTest {
 
     /** With n 1 the root of every prime is 1, so that root tells which numbers are primes. */
     private static void primesDue() {
-        Sumsetry house = new Sumsetry();
         for (int p = -2; p < 10010; p++) {
-            int asked = p;
             boolean taken = p <= 9999 && Told.isPrime(p);
-            due("root(" + p + ", 1)", taken ? "nothing" : IllegalArgumentException.class, () -> {
-                house.root(asked, 1);
-                return "nothing";
-            });
+            rootDue("root(" + p + ", 1)", taken ? "nothing" : ARGUMENT, new Sumsetry(), p, 1);
         }
     }
 }
