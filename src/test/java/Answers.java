@@ -6,6 +6,7 @@ abstract class Answers {
     static final Report REPORT = new Report();
     static final int LOWEST = Integer.MIN_VALUE;
     static final int HIGHEST = Integer.MAX_VALUE;
+    private static long seed = 20261119;
 
     /** A way to make a house, the same one each time. */
     interface Recipe {
@@ -31,6 +32,12 @@ abstract class Answers {
     /** The answer of a house made for this call alone. */
     static void answered(String call, Object want, Recipe recipe, Asked asked) {
         due(call, want, () -> asked.answer(recipe.made()));
+    }
+
+    /** The next of a fixed row of numbers from 0 to below most, so that every run asks the same. */
+    static int next(int most) {
+        seed = (seed * 6364136223846793005L + 1442695040888963407L);
+        return (int) ((seed >>> 33) % most);
     }
 
     static void rootDue(String call, Object want, Sumsetry house, int p, int w) {

@@ -40,11 +40,13 @@ public final class BoundaryGroupsTest extends Answers {
         }
         due("512 calls: the last, asked", 1L, () -> asked.elements(29));
         Sumsetry anew = new Sumsetry();
-        for (int call = 1; call < 510; call += 3) {
+        for (int call = 1; call < 508; call += 3) {
             anew.group(call % 6 + 1, 6);
             anew.put(5);
             anew.set(bits(5));
         }
+        due("512 calls: groups, m", 2, () -> anew.of(0));
+        due("512 calls: groups, n", 6, () -> anew.of(1));
         due("512 calls: groups, a set", 1, () -> anew.set(1));
         due("512 calls: groups, an element put", 2, () -> anew.put(1));
         due("512 calls: the last, behind groups", 2, () -> anew.of(2));

@@ -10,7 +10,6 @@ import java.util.TreeSet;
 public final class TermsTest extends Answers {
     private static final int[][] WIDE = {{1, 36}, {36, 1}, {6, 6}, {4, 9}, {9, 4}, {2, 18}, {18, 2}, {3, 12},
         {12, 3}, {1, 31}, {5, 7}, {1, 35}, {4, 8}, {8, 4}, {2, 16}, {5, 5}, {3, 9}, {1, 12}, {2, 6}, {2, 8}};
-    private static long seed = 20261119;
 
     public static void main(String[] args) {
         for (int m = 1; m <= 36; m++) {
@@ -42,12 +41,6 @@ public final class TermsTest extends Answers {
         }
         primesDue();
         REPORT.end("TermsTest");
-    }
-
-    /** The next of a fixed row of numbers from 0 to below most, so that every run asks the same. */
-    private static int next(int most) {
-        seed = (seed * 6364136223846793005L + 1442695040888963407L);
-        return (int) ((seed >>> 33) % most);
     }
 
     private static TreeSet<Integer> someSet(int size, int most) {
