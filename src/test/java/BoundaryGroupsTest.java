@@ -14,6 +14,7 @@ public final class BoundaryGroupsTest extends Answers {
         groupSides();
         groupBeginsAnew();
         groupForgets();
+        groupBehindGroup();
         addComesRound();
         addLastElement();
         setBits();
@@ -177,6 +178,34 @@ public final class BoundaryGroupsTest extends Answers {
         due("2 of 2 and 18: add(1, 1)", 2, () -> house.add(1, 1, true));
         due("2 turned again", 36, () -> house.group(18, 2));
         due("2 of 18 and 2: add(1, 1)", 0, () -> house.add(1, 1, true));
+    }
+
+    /** Behind any other group, sums, differences and steps are those of the new one. */
+    private static void groupBehindGroup() {
+        int[][] groups = {{1, 1}, {1, 36}, {36, 1}, {6, 6}, {2, 18}, {18, 2}, {3, 4}, {4, 3}, {1, 12}, {2, 2}};
+        for (int[] old : groups) {
+            for (int[] now : groups) {
+                Sumsetry house = house(old[0], old[1], first(old[0] * old[1]));
+                house.group(now[0], now[1]);
+                int size = now[0] * now[1];
+                String of = "2 of " + now[0] + " and " + now[1] + " behind " + old[0] + " and " + old[1] + ": ";
+                Told told = new Told(now[0], now[1]);
+                long some = bits(size - 1, size / 2, size / 3);
+                long low = first(Math.min(size, 3));
+                due(of + "set", 0, () -> house.set(some));
+                due(of + "another set", 1, () -> house.set(low));
+                for (int how = Sumsetry.SUM; how <= Sumsetry.DIFFERENCE; how++) {
+                    int by = how;
+                    long want = Told.bitsOf(told.combine(how, Told.setOf(some), Told.setOf(some)));
+                    due(of + "combine " + how, want, () -> house.elements(house.combine(by, 0, 0)));
+                }
+                for (int rule = Sumsetry.FREE; rule <= Sumsetry.APART; rule++) {
+                    int by = rule;
+                    due(of + "keeps " + rule, told.keeps(Told.setOf(some), rule), () -> house.keeps(0, by));
+                    due(of + "the other keeps " + rule, told.keeps(Told.setOf(low), rule), () -> house.keeps(1, by));
+                }
+            }
+        }
     }
 
     /** "adding their x, modulo m, and their y, modulo n", "to subtract an element is to add less it". */
@@ -346,6 +375,11 @@ public final class BoundaryGroupsTest extends Answers {
                     house -> house.elements(house.combine(asked, 0, 0)));
         }
         refused("5 with itself, WITHOUT", STATE, recipe, house -> house.combine(Sumsetry.WITHOUT, 0, 0));
+        Recipe none = () -> house(1, 12, bits(0), bits(1, 2));
+        answered("5 0 with 1 and 2, unlike", bits(1, 2), none,
+                house -> house.elements(house.combine(Sumsetry.RESTRICTED, 0, 1)));
+        answered("5 1 and 2 with 0, unlike", bits(1, 2), none,
+                house -> house.elements(house.combine(Sumsetry.RESTRICTED, 1, 0)));
         Recipe pair = () -> house(1, 12, bits(3, 9));
         answered("5 a pair with itself, unlike", bits(0), pair,
                 house -> house.elements(house.combine(Sumsetry.RESTRICTED, 0, 0)));
@@ -408,6 +442,10 @@ public final class BoundaryGroupsTest extends Answers {
     private static void moveComesRound() {
         Recipe recipe = () -> house(3, 4, bits(1, 4, 11), first(12));
         answered("6 no times: the element alone", bits(11), recipe, house -> house.elements(house.move(1, 0, 11)));
+        for (int times : new int[] {-100, -1, 0, 1, 100}) {
+            answered("6 0 alone, so often: " + times, bits(11), () -> house(3, 4, 1),
+                    house -> house.elements(house.move(0, times, 11)));
+        }
         answered("6 once, with 0: the set", bits(1, 4, 11), recipe, house -> house.elements(house.move(0, 1, 0)));
         answered("6 once, with the last", bits(8, 3, 6), recipe, house -> house.elements(house.move(0, 1, 11)));
         answered("6 less once, with 0", bits(3, 8, 5), recipe, house -> house.elements(house.move(0, -1, 0)));

@@ -28,6 +28,7 @@ public final class BoundaryOrdersTest extends Answers {
         imageFirst();
         imageNone();
         imageLastElement();
+        mapsBehindMaps();
         noSuchSets();
         REPORT.end("BoundaryOrdersTest");
     }
@@ -265,6 +266,29 @@ public final class BoundaryOrdersTest extends Answers {
         }
         refused("19 no element, seven", INDEX, MANY, house -> house.image(2, 2, 2, -1));
         refused("19 no element, seven, beyond", INDEX, MANY, house -> house.image(2, 2, 2, 36));
+    }
+
+    /** What was asked before leaves nothing behind: greater sets ahead of smaller ones, alike sums ahead of others. */
+    private static void mapsBehindMaps() {
+        answered("19 not of the set, but of the one asked before", Sumsetry.NONE, STEPS, house -> {
+            house.image(0, 1, 2, 0);
+            return house.image(4, 4, 2, 1);
+        });
+        answered("20 3 + 9 is 0, as 0 + 0 was before", 2, () -> house(1, 12, bits(0, 6), bits(3, 9)), house -> {
+            house.maps(0, 0, 2);
+            return house.maps(1, 1, 2);
+        });
+        answered("20 by 2 behind by 3", 2, () -> house(1, 6, bits(0, 1), bits(0, 2)), house -> {
+            house.maps(0, 1, 3);
+            return house.maps(0, 1, 2);
+        });
+        answered("20 of another group", 0, () -> house(1, 12, bits(0, 1), bits(0, 6)), house -> {
+            house.maps(1, 1, 2);
+            house.group(1, 13);
+            house.set(bits(0, 1, 3));
+            house.set(bits(0, 1, 2));
+            return house.maps(0, 1, 2);
+        });
     }
 
     /** "IndexOutOfBoundsException if there is no such set", in each place of each call. */

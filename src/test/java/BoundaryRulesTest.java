@@ -25,6 +25,7 @@ public final class BoundaryRulesTest extends Answers {
         winsAlready();
         winsLost();
         winsWhatever();
+        winsBehindWins();
         winsElements();
         noSuchRules();
         noSuchSets();
@@ -194,6 +195,8 @@ public final class BoundaryRulesTest extends Answers {
         greatestDue("of the least group, free", 0, FREE, 1, 1, 1);
         greatestDue("of the least group, sidon", 1, SIDON, 1, 1, 1);
         greatestDue("one element, free", bits(35), FREE, 1, 36, bits(35));
+        greatestDue("one element, sidon", bits(35), SIDON, 1, 36, bits(35));
+        greatestDue("one element, no steps", bits(35), NO_STEPS, 1, 36, bits(35));
         greatestDue("one element, apart", bits(35), APART, 1, 36, bits(35));
         greatestDue("all that keeps the rule", bits(1, 3, 9, 11), FREE, 1, 12, bits(1, 3, 9, 11));
         greatestDue("all of 2 and 2", 15, NO_STEPS, 2, 2, 15);
@@ -279,6 +282,22 @@ public final class BoundaryRulesTest extends Answers {
             house.wins(FREE, 0);
             return house.wins(NO_STEPS, 0);
         });
+    }
+
+    /** A game of a great group leaves nothing behind for that of a smaller one, nor that of one rule for another. */
+    private static void winsBehindWins() {
+        for (int rule = FREE; rule <= APART; rule++) {
+            Sumsetry house = new Sumsetry();
+            for (int size = 10; size >= 1; size--) {
+                Told told = new Told(1, size);
+                house.group(1, size);
+                for (int other = FREE; other <= APART; other++) {
+                    int by = (rule + other) % 4;
+                    due("24 of " + size + " behind more, rule " + by, Told.bitsOf(told.wins(by, Told.setOf(0))),
+                            () -> house.wins(by, 0));
+                }
+            }
+        }
     }
 
     /** "IllegalArgumentException if elements has what is no element, or does not keep the rule". */

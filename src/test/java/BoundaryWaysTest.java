@@ -15,6 +15,7 @@ public final class BoundaryWaysTest extends Answers {
         popularLeast();
         popularNone();
         energyLeastAndMost();
+        ofEveryGroup();
         stabilizerLeastAndMost();
         excessLeast();
         slackLeastAndMost();
@@ -119,6 +120,29 @@ public final class BoundaryWaysTest extends Answers {
     private static void energiesDue(String of, int want, Recipe recipe, int one, int other) {
         answered("10 of " + of, want, recipe, house -> house.energy(one, other));
         answered("11 of " + of, want, recipe, house -> house.energyAnew(one, other));
+    }
+
+    /** The last element alone and all elements, of every group: the least and the most. */
+    private static void ofEveryGroup() {
+        for (int m = 1; m <= 36; m++) {
+            for (int n = 1; m * n <= 36; n++) {
+                int size = m * n;
+                int x = m;
+                int y = n;
+                Recipe recipe = () -> house(x, y, bits(size - 1), first(size));
+                String of = " of " + m + " and " + n;
+                energiesDue("the last" + of, 1, recipe, 0, 0);
+                energiesDue("all" + of, size * size * size, recipe, 1, 1);
+                energiesDue("all and the last" + of, size, recipe, 1, 0);
+                answered("12 the last" + of, 1L, recipe, house -> house.stabilizer(0));
+                answered("12 all" + of, first(size), recipe, house -> house.stabilizer(1));
+                answered("13 the last" + of, 0, recipe, house -> house.excess(0, 0));
+                answered("13 all" + of, 0, recipe, house -> house.excess(1, 1));
+                answered("14 all, the last, all" + of, size * size - size, recipe, house -> house.slack(1, 0, 1));
+                answered("15 all by all" + of, 1L, recipe, house -> house.cover(1, 1));
+                answered("15 all by the last" + of, first(size), recipe, house -> house.cover(1, 0));
+            }
+        }
     }
 
     /** "all elements that, added to each element of the set, give the same set": 0 at least, all at most. */
