@@ -1,5 +1,4 @@
 import java.io.IOException;
-import java.lang.reflect.Constructor;
 import java.lang.reflect.Field;
 import java.lang.reflect.Method;
 import java.lang.reflect.Modifier;
@@ -12,41 +11,59 @@ import java.util.TreeSet;
 import java.util.regex.Matcher;
 import java.util.regex.Pattern;
 
-/** What of LANGUAGE.md can be seen in the text of the class and in its face. */
+/** The face of the class, held against that of the document, and what LANGUAGE.md rules of the file as a text. */
 public final class LanguageTest {
     private static final Report REPORT = new Report();
-    private static final List<String> FACE = List.of("int group(int,int)", "int add(int,int,boolean)",
-            "int set(long)", "int combine(int,int,int)", "int move(int,int,int)", "long elements(int)",
-            "int ways(int,int,int)", "long popular(int,int,int)", "int energy(int,int)", "int energyAnew(int,int)",
-            "long stabilizer(int)", "int excess(int,int)", "int slack(int,int,int)", "long cover(int,int)",
-            "long sums(int,int)", "int order(int)", "long essential(int)", "int image(int,int,int,int)",
-            "int maps(int,int,int)", "boolean keeps(int,int)", "long greatest(int,int)",
-            "long greatestAnew(int,int)", "long wins(int,long)", "int put(int)", "int wipe()", "int zero()",
-            "int constant()", "void root(int,int)", "int transform(int,int)", "int waysAnew(int,int,int)",
-            "int of(int)");
-    private static final List<String> CONSTANTS = List.of("NONE", "SUM", "DIFFERENCE", "RESTRICTED", "MEET", "JOIN",
-            "WITHOUT", "FREE", "SIDON", "NO_STEPS", "APART");
-    /** Words that the rules leave no use for in this class. */
-    private static final List<String> RULED_OUT = List.of("import", "package", "catch", "try", "finally",
-            "synchronized", "assert", "var", "double", "float", "System", "Thread", "Random", "protected", "native",
-            "transient", "volatile", "strictfp", "instanceof", "getClass", "hashCode", "toString", "Object",
-            "Throwable", "Error");
+    /** The document's lines of calls, as they stand there. */
+    private static final String FACE = """
+            public int group(int m, int n) throws IllegalArgumentException;
+            public int add(int one, int other, boolean isSum) throws IndexOutOfBoundsException;
+            public int set(long elements) throws IllegalArgumentException, IllegalStateException;
+            public int combine(int how, int one, int other) throws IndexOutOfBoundsException, IllegalArgumentException, IllegalStateException;
+            public int move(int set, int times, int element) throws IndexOutOfBoundsException, IllegalArgumentException, IllegalStateException;
+            public long elements(int set) throws IndexOutOfBoundsException;
+            public int ways(int one, int other, int element) throws IndexOutOfBoundsException;
+            public long popular(int one, int other, int least) throws IndexOutOfBoundsException, IllegalArgumentException;
+            public int energy(int one, int other) throws IndexOutOfBoundsException;
+            public int energyAnew(int one, int other) throws IndexOutOfBoundsException;
+            public long stabilizer(int set) throws IndexOutOfBoundsException;
+            public int excess(int one, int other) throws IndexOutOfBoundsException;
+            public int slack(int one, int other, int third) throws IndexOutOfBoundsException;
+            public long cover(int set, int by) throws IndexOutOfBoundsException;
+            public long sums(int set, int many) throws IndexOutOfBoundsException, IllegalArgumentException;
+            public int order(int set) throws IndexOutOfBoundsException;
+            public long essential(int set) throws IndexOutOfBoundsException;
+            public int image(int set, int other, int order, int element) throws IndexOutOfBoundsException, IllegalArgumentException, IllegalStateException;
+            public int maps(int set, int other, int order) throws IndexOutOfBoundsException, IllegalArgumentException, IllegalStateException;
+            public boolean keeps(int set, int rule) throws IndexOutOfBoundsException;
+            public long greatest(int set, int rule) throws IndexOutOfBoundsException, IllegalStateException;
+            public long greatestAnew(int set, int rule) throws IndexOutOfBoundsException, IllegalStateException;
+            public long wins(int rule, long elements) throws IndexOutOfBoundsException, IllegalArgumentException, IllegalStateException;
+            public int put(int element) throws IndexOutOfBoundsException, IllegalStateException;
+            public int wipe();
+            public int zero();
+            public int constant() throws IllegalStateException;
+            public void root(int p, int w) throws IllegalArgumentException, IllegalStateException;
+            public int transform(int set, int k) throws IndexOutOfBoundsException, IllegalArgumentException, IllegalStateException;
+            public int waysAnew(int one, int other, int element) throws IndexOutOfBoundsException, IllegalStateException;
+            public int of(int what) throws IllegalArgumentException;
+            """;
+    /** The document's constants, with what they are. */
+    private static final String CONSTANTS = """
+            NONE = -1
+            SUM = 0, DIFFERENCE = 1, RESTRICTED = 2, MEET = 3, JOIN = 4, WITHOUT = 5
+            FREE = 0, SIDON = 1, NO_STEPS = 2, APART = 3
+            """;
+    private static final String HEADINGS = "groups, sets; ways, small sums; orders, maps; rules, games; rows; transforms";
 
-    public static void main(String[] args) throws IOException {
+    public static void main(String[] args) throws IOException, IllegalAccessException {
         String source = Files.readString(Path.of(args[0]));
-        String code = withoutTexts(source);
-        face();
-        privateNames();
-        for (String word : RULED_OUT) {
-            due("the word " + word, 0, count("\\b" + word + "\\b", code));
-        }
-        due("names that end in Exact", 0, count("\\w+Exact\\b", code));
-        due("lambdas and method references", 0, count("->|::", code));
-        due("signs above 127", 0, count("[^\\x00-\\x7f]", source));
-        due("loops without a counter", 0, count("\\b(while|do)\\b", code));
-        due("places where an array is read or written", 4, count("\\w\\[[^\\]]", code.replaceAll("new \\w+\\[[^\\]]*\\]", "")));
-        due("places that divide by what is no number", 2, count(" [/%] [^0-9]", code));
-        methods(code);
+        calls();
+        constants();
+        constructor();
+        order(source);
+        due("signs above 127", 0, found("[^\\x00-\\x7f]", source).size());
+        due("no package line, no import", 0, found("(?m)^(package|import)\\b", source).size());
         REPORT.end("LanguageTest");
     }
 
@@ -54,86 +71,56 @@ public final class LanguageTest {
         REPORT.due(what, want, () -> got);
     }
 
-    private static void face() {
-        TreeSet<String> methods = new TreeSet<>();
+    private static void calls() {
+        TreeSet<String> made = new TreeSet<>();
         for (Method method : Sumsetry.class.getDeclaredMethods()) {
             if (!Modifier.isPrivate(method.getModifiers())) {
-                String parameters = Arrays.toString(method.getParameterTypes()).replaceAll("[\\[\\] ]", "");
-                methods.add(method.getReturnType() + " " + method.getName() + "(" + parameters + ")");
-                due(method.getName() + " is public", Modifier.PUBLIC, method.getModifiers());
+                made.add(method.toString().replaceAll("Sumsetry\\.|java\\.lang\\.", ""));
             }
         }
-        due("the face's methods", new TreeSet<>(FACE), methods);
-        TreeSet<String> constants = new TreeSet<>();
+        TreeSet<String> told = new TreeSet<>();
+        for (String line : FACE.split(";\n")) {
+            String types = line.replaceAll("(int|long|boolean) \\w+(?=[,)])", "$1");
+            told.add(types.replaceAll(", ", ",").trim());
+        }
+        due("the face's calls", 31, told.size());
+        due("the class's calls", told, made);
+    }
+
+    private static void constants() throws IllegalAccessException {
+        TreeSet<String> made = new TreeSet<>();
         for (Field field : Sumsetry.class.getDeclaredFields()) {
             if (!Modifier.isPrivate(field.getModifiers())) {
-                constants.add(field.getName());
-                due(field.getName() + " is a constant", Modifier.PUBLIC | Modifier.STATIC | Modifier.FINAL,
-                        field.getModifiers());
-            }
-            if (Modifier.isStatic(field.getModifiers())) {
-                due(field.getName() + " is final", true, Modifier.isFinal(field.getModifiers()));
+                due(field.getName() + " is a constant", "public static final int",
+                        Modifier.toString(field.getModifiers()) + " " + field.getType());
+                made.add(field.getName() + " = " + field.getInt(null));
             }
         }
-        due("the face's constants", new TreeSet<>(CONSTANTS), constants);
-        due("constructors", 1, Sumsetry.class.getDeclaredConstructors().length);
-        for (Constructor<?> one : Sumsetry.class.getConstructors()) {
-            due("its parameters", 0, one.getParameterCount());
-        }
-        due("public and final", Modifier.PUBLIC | Modifier.FINAL, Sumsetry.class.getModifiers());
+        due("the face's constants", new TreeSet<>(Arrays.asList(CONSTANTS.trim().split(", |\n"))), made);
     }
 
-    private static void privateNames() {
-        TreeSet<String> publicNames = new TreeSet<>();
-        for (String one : FACE) {
-            publicNames.add(one.replaceAll(".* |\\(.*", ""));
-        }
-        List<Class<?>> classes = new ArrayList<>(List.of(Sumsetry.class.getDeclaredClasses()));
-        due("at most twelve classes", true, classes.size() < 12);
-        for (Class<?> inside : classes) {
-            due(inside + " is static", true, Modifier.isStatic(inside.getModifiers()));
-            due(inside + " is not public", false, Modifier.isPublic(inside.getModifiers()));
-            due(inside + " has at most twenty fields", true, inside.getDeclaredFields().length <= 20);
-            for (Method method : inside.getDeclaredMethods()) {
-                due("the name " + method.getName(), false, publicNames.contains(method.getName()));
-            }
-        }
-        for (Method method : Sumsetry.class.getDeclaredMethods()) {
-            if (Modifier.isPrivate(method.getModifiers())) {
-                due("the name " + method.getName(), false, publicNames.contains(method.getName()));
-            }
-            due(method.getName() + " has at most seven parameters", true, method.getParameterCount() <= 7);
-        }
+    private static void constructor() {
+        due("the class", "public final", Modifier.toString(Sumsetry.class.getModifiers()));
+        due("its constructors", "[public Sumsetry()]",
+                Arrays.toString(Sumsetry.class.getDeclaredConstructors()));
+        due("above it", Object.class, Sumsetry.class.getSuperclass());
+        due("it implements", 0, Sumsetry.class.getInterfaces().length);
     }
 
-    /** A method ends at the first brace that stands as far in as its head. */
-    private static void methods(String code) {
-        String[] lines = code.split("\n");
-        int heads = 0;
-        for (int line = 0; line < lines.length; line++) {
-            Matcher head = Pattern.compile("( {4}| {8})(?!return|throw|else|new)((public|private|static|final) )*"
-                    + "[\\w\\[\\]]+ (\\w+)\\([^;=]*").matcher(lines[line]);
-            if (head.matches()) {
-                heads++;
-                int end = line;
-                while (end < lines.length && !lines[end].equals(head.group(1) + "}")) {
-                    end++;
-                }
-                due("the lines of " + head.group(4) + " are at most sixty", true, end - line < 60);
-            }
-        }
-        due("heads of methods found", true, heads > 80);
+    /** The calls stand in the document's order, under its headings. */
+    private static void order(String source) {
+        List<String> told = found("(?<=public (int|long|boolean|void) )\\w+(?=\\()", FACE);
+        due("the calls told", 31, told.size());
+        due("the calls in their order", told, found("(?<=\n    public (int|long|boolean|void) )\\w+(?=\\()", source));
+        String headings = String.join("; ", found("(?<=// ---- ).*", source));
+        due("the headings", true, headings.startsWith(HEADINGS));
     }
 
-    private static String withoutTexts(String source) {
-        return source.replaceAll("(?s)/\\*.*?\\*/", "").replaceAll("//[^\n]*", "").replaceAll("\"[^\"]*\"", "T");
-    }
-
-    private static int count(String pattern, String text) {
+    private static List<String> found(String pattern, String text) {
         Matcher matcher = Pattern.compile(pattern).matcher(text);
-        int found = 0;
+        List<String> found = new ArrayList<>();
         while (matcher.find()) {
-            found++;
+            found.add(matcher.group());
         }
         return found;
     }

@@ -97,7 +97,7 @@ public final class TermsTest extends Answers {
         return house(m, n, sets.stream().mapToLong(Told::bitsOf).toArray());
     }
 
-    private static void oneSetDue(Told told, Sumsetry house, TreeSet<Integer> set, int number) {
+    static void oneSetDue(Told told, Sumsetry house, TreeSet<Integer> set, int number) {
         String of = " of " + told.m + " and " + told.n + ": " + set;
         due("elements" + of, Told.bitsOf(set), () -> house.elements(number));
         due("stabilizer" + of, Told.bitsOf(told.stabilizer(set)), () -> house.stabilizer(number));
@@ -120,7 +120,7 @@ public final class TermsTest extends Answers {
                 () -> house.elements(made));
     }
 
-    private static void twoSetsDue(Told told, Sumsetry house, TreeSet<Integer> set, TreeSet<Integer> with, int one,
+    static void twoSetsDue(Told told, Sumsetry house, TreeSet<Integer> set, TreeSet<Integer> with, int one,
             int other) {
         String of = " of " + told.m + " and " + told.n + ": " + set + with;
         for (int least = 1; least < 4; least++) {
@@ -146,7 +146,7 @@ public final class TermsTest extends Answers {
         }
     }
 
-    private static void mapsDue(Told told, Sumsetry house, TreeSet<Integer> set, TreeSet<Integer> with, int one,
+    static void mapsDue(Told told, Sumsetry house, TreeSet<Integer> set, TreeSet<Integer> with, int one,
             int other) {
         for (int order = 2; order <= 3; order++) {
             int by = order;
