@@ -198,7 +198,7 @@ public final class TheoremsTest extends Answers {
         }
     }
 
-    /** By Olson, a row has a zero part from so many on: the greatest common divisor, the least common multiple, less 1. */
+    /** Olson: a row as long as greatest common divisor and least common multiple, less 1, has a zero part. */
     private void rows() {
         for (int round = 0; round < ROUNDS; round++) {
             Sumsetry full = house(m, n);

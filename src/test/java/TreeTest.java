@@ -41,8 +41,8 @@ public final class TreeTest {
     private static final Set<Tree.Kind> RULED_OUT = Set.of(Tree.Kind.LAMBDA_EXPRESSION, Tree.Kind.MEMBER_REFERENCE,
             Tree.Kind.TRY, Tree.Kind.SYNCHRONIZED, Tree.Kind.ASSERT, Tree.Kind.INSTANCE_OF, Tree.Kind.IMPORT,
             Tree.Kind.PACKAGE, Tree.Kind.ENHANCED_FOR_LOOP, Tree.Kind.WHILE_LOOP, Tree.Kind.DO_WHILE_LOOP,
-            Tree.Kind.ENUM, Tree.Kind.INTERFACE, Tree.Kind.ANNOTATION_TYPE, Tree.Kind.ANNOTATION, Tree.Kind.NULL_LITERAL,
-            Tree.Kind.DOUBLE_LITERAL, Tree.Kind.FLOAT_LITERAL, Tree.Kind.DIVIDE_ASSIGNMENT,
+            Tree.Kind.ENUM, Tree.Kind.INTERFACE, Tree.Kind.ANNOTATION_TYPE, Tree.Kind.ANNOTATION,
+            Tree.Kind.NULL_LITERAL, Tree.Kind.DOUBLE_LITERAL, Tree.Kind.FLOAT_LITERAL, Tree.Kind.DIVIDE_ASSIGNMENT,
             Tree.Kind.REMAINDER_ASSIGNMENT, Tree.Kind.LABELED_STATEMENT);
 
     public static void main(String[] args) throws IOException {
@@ -124,8 +124,9 @@ public final class TreeTest {
             classes++;
             int fields = 0;
             for (Tree member : tree.getMembers()) {
-                boolean isField = member instanceof VariableTree;
-                fields += isField && !((VariableTree) member).getModifiers().getFlags().contains(Modifier.STATIC) ? 1 : 0;
+                boolean isField = member instanceof VariableTree
+                        && !((VariableTree) member).getModifiers().getFlags().contains(Modifier.STATIC);
+                fields += isField ? 1 : 0;
             }
             due(nameOf(one) + " has at most twenty fields", true, fields <= 20);
             due(nameOf(one) + " is final", true, one.getModifiers().contains(Modifier.FINAL));
